@@ -58,7 +58,7 @@ public final class TabuSolver {
   private final History history;
   private final Settings settings;
   private final Walk walk;
-  private final Exact exact;
+  private final Survey survey;
   private final Input input;
   private final Description description;
   private boolean isSaved;
@@ -70,7 +70,7 @@ public final class TabuSolver {
     history = new History();
     settings = new Settings();
     walk = new Walk();
-    exact = new Exact();
+    survey = new Survey();
     input = new Input();
     description = new Description();
     isSaved = false;
@@ -384,28 +384,28 @@ public final class TabuSolver {
 
   public int optimum() throws IllegalStateException {
     exploreAll();
-    return exact.lowest;
+    return survey.lowest;
   }
 
   public int optima() throws IllegalStateException {
     exploreAll();
-    return exact.ways;
+    return survey.ways;
   }
 
   public int optimalValue(int variable) throws IndexOutOfBoundsException, IllegalStateException {
     checkVariable(variable);
     exploreAll();
-    return exact.first[variable];
+    return survey.first[variable];
   }
 
   public int worst() throws IllegalStateException {
     exploreAll();
-    return exact.highest;
+    return survey.highest;
   }
 
   public int unavoidable() throws IllegalStateException {
     exploreAll();
-    return Integer.bitCount(exact.alwaysViolated);
+    return Integer.bitCount(survey.alwaysViolated);
   }
 
   public int append(char character) throws IllegalArgumentException, IllegalStateException {
@@ -479,15 +479,15 @@ public final class TabuSolver {
 
   private void beginSearch() {
     walk.begin(problem);
-    exact.isKnown = false;
+    survey.isKnown = false;
   }
 
   private void exploreAll() {
     if (problem.combinations() > MOST_COMBINATIONS) {
       throw new IllegalStateException();
     }
-    if (!exact.isKnown) {
-      exact.explore(problem);
+    if (!survey.isKnown) {
+      survey.explore(problem);
     }
   }
 
@@ -1071,7 +1071,7 @@ public final class TabuSolver {
   }
 
   /** What holds of all combinations of values; kept until the problem changes, since the present values do not matter. */
-  private static final class Exact {
+  private static final class Survey {
     final int[] row = new int[MOST_VARIABLES];
     final int[] first = new int[MOST_VARIABLES];
     boolean isKnown = false;

@@ -149,6 +149,10 @@ public final class CostTest {
     Checks.fails("relief(-1)", IndexOutOfBoundsException.class, () -> x.relief(-1));
     Checks.due("relief without constraints", 0, Checks.solver(2).relief(0));
     Checks.due("values stay", "331", Checks.values(x));
+    TabuSolver y = Checks.solver(3, 4);
+    y.addConstraint(2, 3, 50, 1);
+    Checks.due("as far as the domain of 0 goes", 2, y.relief(0));
+    Checks.due("as far as the domain of 1 goes", 3, y.relief(1));
   }
 
   private static void takeBest() {
@@ -159,15 +163,16 @@ public final class CostTest {
     x.step();
     x.step();
     x.restart();
+    x.setNeighborhood(2);
     x.step();
+    Checks.due("values before", "12", Checks.values(x));
     String before = x.search(0) + "," + x.search(1) + "," + x.search(2) + "," + x.search(4) + "," + x.logSize();
-    int cost = x.cost();
-    boolean isForbidden = x.isForbidden(0, x.log(2, 2) == 0 ? 0 : 1);
-    Checks.due("takeBest", cost, x.takeBest());
+    Checks.due("takeBest", 3, x.takeBest());
     Checks.due("values", "20", Checks.values(x));
     String after = x.search(0) + "," + x.search(1) + "," + x.search(2) + "," + x.search(4) + "," + x.logSize();
     Checks.due("the search goes on", before, after);
-    Checks.due("forbidden values stay", isForbidden, x.isForbidden(0, x.log(2, 2) == 0 ? 0 : 1));
+    Checks.due("forbidden values stay", true, x.isForbidden(0, 2) && x.isForbidden(1, 1));
+    Checks.due("takeBest is no change", 2, x.undo());
     Checks.due("takeBest again", 0, x.takeBest());
     Checks.due("takeBest without variables", 0, new TabuSolver().takeBest());
   }

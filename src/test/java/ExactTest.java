@@ -6,6 +6,7 @@ public final class ExactTest {
     avoidableInTurns();
     withoutVariables();
     withoutConstraints();
+    tenVariables();
     firstInLexicographicOrder();
     limit();
     indexFirst();
@@ -63,6 +64,17 @@ public final class ExactTest {
     Checks.due("5000 combinations", 5000, x.count(3));
     Checks.due("all are optimal", "0,5000,0,0", answers(x));
     Checks.due("first combination", "00000", optimalValues(x));
+  }
+
+  private static void tenVariables() {
+    TabuSolver x = Checks.solver(2, 2, 2, 2, 2, 2, 2, 2, 2, 2);
+    x.addConstraint(2, 1023, 9, 1);
+    Checks.due("one zero among ten", "0,10,9,0", answers(x));
+    Checks.due("first combination", "0111111111", optimalValues(x));
+    for (int c = 1; c < 20; c++) {
+      x.addConstraint(1, 1023, -1, 1);
+    }
+    Checks.due("twenty constraints", "28,1,210,20", answers(x));
   }
 
   private static void firstInLexicographicOrder() {

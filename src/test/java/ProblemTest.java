@@ -67,6 +67,9 @@ public final class ProblemTest {
     Checks.fails("undo after clear", NoSuchElementException.class, x::undo);
     Checks.due("clear of nothing", 0, x.clear());
     Checks.due("first variable after clear", 0, x.addVariable(5));
+    x.setValue(0, 4);
+    x.clear();
+    x.addVariable(5);
     Checks.due("its value", 0, x.variable(0, 1));
   }
 
@@ -162,6 +165,17 @@ public final class ProblemTest {
     Checks.due("remove", 1, x.removeConstraint(0));
     Checks.due("remove all", 0, x.removeConstraint(0));
     Checks.due("cost without constraints", 0, x.cost());
+    Checks.due("conflict without constraints", "0,0", x.variable(0, 3) + "," + x.variable(0, 4));
+    Checks.due("violated ones without constraints", 0, x.count(2));
+    for (int c = 0; c < 20; c++) {
+      x.addConstraint(2, 3, c + 1, 1);
+    }
+    Checks.due("cost of twenty", 210, x.cost());
+    Checks.due("violated ones of twenty", 20, x.count(2));
+    Checks.due("conflict of twenty", "210,20", x.variable(0, 3) + "," + x.variable(0, 4));
+    Checks.due("remove one of twenty", 19, x.removeConstraint(3));
+    Checks.due("the last one of 19", 20, x.constraint(18, 2));
+    Checks.due("cost of 19", 206, x.cost());
   }
 
   private static void settingWeights() {

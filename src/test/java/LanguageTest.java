@@ -25,6 +25,7 @@ public final class LanguageTest {
     none(code, "rule 3: another type", "\\b(Object|Double|Float|Character|Boolean|Byte|Short|Thread|var)\\b");
     none(code, "rule 4: Exact functions", "\\b(Math|Integer|Long)\\.\\w+Exact\\(");
     none(code, "rule 4: Math on doubles", "\\bMath\\.(sqrt|pow|floor|ceil|round|random|log|exp|sin|cos)\\(");
+    none(code, "rule 4: what is no function of the library", "\\b(Math|Integer|Long)\\.(?![a-z]\\w*\\()");
     none(code, "rule 4: System", "\\bSystem\\.(?!arraycopy\\()");
     none(code, "rule 4: Arrays", "\\bArrays\\.(?!(fill|copyOf|copyOfRange)\\()");
     none(code, "rule 5: a static that is not final", "\\bstatic (?!final\\b)[\\w\\[\\]]+ \\w+( =|;)|\\bstatic \\{");
